@@ -1,0 +1,57 @@
+/** Counts answers that are due; a test ends with end(). */
+final class Check {
+    private static int right = 0;
+    private static int wrong = 0;
+
+    private Check() {
+    }
+
+    static void due(String call, long got, long want) {
+        if (got == want) {
+            right++;
+            return;
+        }
+        wrong++;
+        if (wrong <= 50) {
+            System.out.println(call + " answered " + got + ", due is " + want);
+        }
+    }
+
+    static void end(String test) {
+        System.out.println(test + ": " + right + " answers as due, " + wrong + " not");
+        if (wrong != 0 || right == 0) {
+            System.exit(1);
+        }
+    }
+
+    /** A new object with a board as drawn, a text a row: 0 .. 5 a land, any other sign the sea. */
+    static LandBoard laid(String... rows) {
+        LandBoard board = new LandBoard();
+        lay(board, rows);
+        return board;
+    }
+
+    static void lay(LandBoard board, String... rows) {
+        board.board(rows[0].length(), rows.length);
+        for (int y = 0; y < rows.length; y++) {
+            for (int x = 0; x < rows[y].length(); x++) {
+                int land = rows[y].charAt(x) - '0';
+                if (land >= 0 && land <= 5) {
+                    board.set(x, y, land);
+                }
+            }
+        }
+    }
+
+    static void dueBoard(String when, LandBoard board, String... rows) {
+        due(when + ": columns", board.count(0), rows[0].length());
+        due(when + ": rows", board.count(1), rows.length);
+        for (int y = 0; y < rows.length; y++) {
+            for (int x = 0; x < rows[y].length(); x++) {
+                int land = rows[y].charAt(x) - '0';
+                due(when + ": at(" + x + ", " + y + ")", board.at(x, y),
+                    land >= 0 && land <= 5 ? land : LandBoard.SEA);
+            }
+        }
+    }
+}
