@@ -278,6 +278,8 @@ final class PromisesTest {
     private static void mayKeepsTouches() {
         due("11: touches stay by other cells", laid("012", "112", "111").may(2, 1, 1), 1);
         due("11: a touch of two others would end", laid("0022", "0132", "1133").may(1, 1, 0), 0);
+        due("11: only a touch of 0 and 1 would end", laid("113", "103", "200").may(1, 1, 3), 0);
+        due("11: only a touch of 1 and 2 would begin", laid("102", "002").may(1, 0, 1), 0);
         due("11: lands that touch would part", laid("0012", "0112", "3333").may(2, 0, 0), 0);
         due("11: lands that touch stay so", laid("0012", "0012", "3333").may(1, 0, 2), 0);
         due("11: a new touch of the one that gets", laid("001", "011", "233").may(1, 1, 0), 0);
@@ -357,6 +359,10 @@ final class PromisesTest {
         none.want(1, 3);
         due("15: miss would stay", none.steps(5), 0);
         due("15: no lands", new LandBoard().steps(64), 0);
+        LandBoard exact = laid("0011");
+        exact.want(0, 2);
+        exact.want(1, 4);
+        due("15: what one wins, the other loses", exact.steps(5), 0);
         LandBoard home = laid("0011");
         home.want(1, 4);
         home.kind(0, 1, 1, 0);
@@ -585,6 +591,15 @@ final class PromisesTest {
         Check.lay(b, "00", "00", "00");
         b.keep(1);
         due("23: as many cells, other sides", b.moved(0, 1), NONE);
+        Check.lay(b, "00", "0.");
+        b.keep(0);
+        due("23: the same columns, other rows", b.moved(0, 1), NONE);
+        Check.lay(b, "0.", "00");
+        b.keep(1);
+        due("23: land 0 and sea", b.moved(0, 1), 2);
+        Check.lay(b, "00.", "0..");
+        b.keep(0);
+        due("23: the same rows, other columns", b.moved(0, 1), NONE);
         for (int[] one : new int[][] {{-1, 0}, {0, -1}, {4, 0}, {0, 4}, {3, 4}, {MOST, LEAST}}) {
             due("23: moved(" + one[0] + ", " + one[1] + ")", b.moved(one[0], one[1]), BAD);
         }
