@@ -16,6 +16,9 @@ public final class LandBoard {
     private static final int LAND = 0, HOME = 1, SHORE = 2;
     private static final long FIRST_COLUMN = 0x0101010101010101L;
     private static final long LAST_COLUMN = FIRST_COLUMN << (SIDE - 1);
+    private static final long FIRST_ROW = 0xffL;
+    private static final long LAST_ROW = FIRST_ROW << (SIDE * (SIDE - 1));
+    private static final long RIM = FIRST_COLUMN | LAST_COLUMN | FIRST_ROW | LAST_ROW;
 
     private final Grid now = new Grid();
     private final Moves moves = new Moves();
@@ -427,7 +430,7 @@ public final class LandBoard {
         return (cells & ~FIRST_COLUMN) >>> 1;
     }
 
-    /** The neighbours of cells; on boards of fewer than eight rows or columns also some that lie outside. */
+    /** The neighbours of cells; on boards of fewer than eight rows or columns also those that lie outside. */
     private static long around(long cells) {
         return toRight(cells) | toLeft(cells) | (cells << SIDE) | (cells >>> SIDE);
     }
@@ -463,17 +466,10 @@ public final class LandBoard {
         final long[] lands = new long[LANDS];
         int width;
         int height;
-        long all;
-        long edge;
 
         void clear(int w, int h) {
             width = w;
             height = h;
-            all = 0;
-            for (int y = 0; y < h && y < SIDE; y++) {
-                all |= ((1L << w) - 1) << (SIDE * y);
-            }
-            edge = all & ~inside(all);
             for (int land = 0; land < LANDS; land++) {
                 lands[land] = 0;
             }
@@ -482,8 +478,6 @@ public final class LandBoard {
         void copy(Grid other) {
             width = other.width;
             height = other.height;
-            all = other.all;
-            edge = other.edge;
             for (int land = 0; land < LANDS; land++) {
                 lands[land] = other.lands[land];
             }
@@ -540,8 +534,8 @@ public final class LandBoard {
         }
 
         boolean isAtSea(long cells) {
-            long sea = all & ~peopledCells();
-            return (cells & edge) != 0 || (around(cells) & sea) != 0;
+            // What lies outside a smaller board is no land's, so its edges are beside sea as it is.
+            return (cells & RIM) != 0 || (around(cells) & ~peopledCells()) != 0;
         }
 
         /** Who touches whom, a bit for each two of the lands and the sea. */

@@ -2,23 +2,45 @@
 final class Check {
     private static int right = 0;
     private static int wrong = 0;
+    private static String test = "";
 
     private Check() {
+    }
+
+    /** What follows belongs to a test with a name of its own. */
+    static void begin(String name) {
+        test = name + ": ";
+    }
+
+    static int answers() {
+        return right + wrong;
     }
 
     static void due(String call, long got, long want) {
         if (got == want) {
             right++;
-            return;
-        }
-        wrong++;
-        if (wrong <= 50) {
-            System.out.println(call + " answered " + got + ", due is " + want);
+        } else {
+            fail(call + " answered " + got + ", due is " + want);
         }
     }
 
-    static void end(String test) {
-        System.out.println(test + ": " + right + " answers as due, " + wrong + " not");
+    static void due(String call, String got, String want) {
+        if (got.equals(want)) {
+            right++;
+        } else {
+            fail(call + " gave " + got + ", due is " + want);
+        }
+    }
+
+    static void fail(String why) {
+        wrong++;
+        if (wrong <= 50) {
+            System.out.println(test + why);
+        }
+    }
+
+    static void end(String tests) {
+        System.out.println(tests + ": " + right + " answers as due, " + wrong + " not");
         if (wrong != 0 || right == 0) {
             System.exit(1);
         }

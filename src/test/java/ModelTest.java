@@ -75,11 +75,11 @@ final class ModelTest {
     }
 
     private int x() {
-        return number(board.count(0) - 1);
+        return number(model.count(0) - 1);
     }
 
     private int y() {
-        return number(board.count(1) - 1);
+        return number(model.count(1) - 1);
     }
 
     private int landOrSea() {
