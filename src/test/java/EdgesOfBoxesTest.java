@@ -325,6 +325,25 @@ final class EdgesOfBoxesTest {
         due("lands 0, 3, 5", laid("0035").best(), 1);
     }
 
+    static void promise20_fewerLandsThanAhead() {
+        LandBoard b = laid("0123455555");
+        b.best();
+        Check.lay(b, "012");
+        due("three alike", b.best(), 0);
+        Check.lay(b, "0123455555");
+        b.box(16, 5, 0);
+        Check.lay(b, "0123");
+        due("four alike", b.best(), 2);
+        Check.lay(b, "0123455555");
+        b.longer(31, 5, 0);
+        Check.lay(b, "0012");
+        due("two and one and one", b.best(), 1);
+        Check.lay(b, "01233333333333");
+        b.best();
+        Check.lay(b, "0122");
+        due("one and one and two", b.best(), 2);
+    }
+
     static void promise20_nothingChanges() {
         Edges.stays("best()", 2, LandBoard::best);
     }

@@ -18,6 +18,22 @@ final class EdgesOfMovesTest {
         return Check.laid(rows);
     }
 
+    /** The rows with lands a, b, c in the places of their letters, for each three of the six: all answer so. */
+    private static void dueOfEachThree(int want, int x, int y, char to, String... rows) {
+        for (int k = 0; k < 6 * 6 * 6; k++) {
+            int[] lands = {k / 36, k / 6 % 6, k % 6};
+            if (lands[0] != lands[1] && lands[0] != lands[2] && lands[1] != lands[2]) {
+                String[] drawn = rows.clone();
+                for (int row = 0; row < rows.length; row++) {
+                    for (int one = 0; one < 3; one++) {
+                        drawn[row] = drawn[row].replace((char) ('a' + one), (char) ('0' + lands[one]));
+                    }
+                }
+                due("lands " + lands[0] + lands[1] + lands[2], laid(drawn).may(x, y, lands[to - 'a']), want);
+            }
+        }
+    }
+
     // ---- promise 10: leaves
 
     static void promise10_columnTooSmall() {
@@ -337,6 +353,26 @@ final class EdgesOfMovesTest {
         due("it ends", laid("335", "345", "445").may(1, 0, 4), 0);
         due("it begins", laid("435", "335").may(1, 0, 4), 0);
         due("both stay", laid("335", "335", "345", "445").may(1, 1, 4), 1);
+    }
+
+    static void promise11_aTouchOfAnyTwoWouldEnd() {
+        dueOfEachThree(0, 1, 0, 'b', "aac", "abc", "bbc");
+        dueOfEachThree(1, 1, 1, 'b', "aac", "aac", "abc", "bbc");
+    }
+
+    static void promise11_aTouchOfAnyTwoWouldBegin() {
+        dueOfEachThree(0, 1, 0, 'b', "bac", "aac");
+        dueOfEachThree(1, 1, 0, 'b', "bac", "aac", "aac", "bbc");
+    }
+
+    static void promise11_anyLandWouldLoseTheEdge() {
+        dueOfEachThree(0, 1, 0, 'b', "bab", "bac", "bbb");
+        dueOfEachThree(1, 1, 0, 'b', "baab", "baac", "bbbb");
+    }
+
+    static void promise11_anyLandWouldWinTheEdge() {
+        dueOfEachThree(0, 1, 0, 'b', "aaaa", "abca", "aaaa");
+        dueOfEachThree(1, 1, 1, 'b', "aaaaa", "aaaaa", "abcaa", "aaaaa");
     }
 
     static void promise11_oneTouchOfManyWouldEnd() {
@@ -767,6 +803,32 @@ final class EdgesOfMovesTest {
         due("steps(64)", b.steps(64), 0);
         b.kind(0, 1, 0, 0);
         due("another own cell", b.steps(64), 1);
+    }
+
+    static void promise15_anOwnCellThatIsTheFirst() {
+        LandBoard b = laid("01", "0.");
+        b.want(0, 1);
+        b.want(1, 2);
+        b.kind(0, 1, 0, 0);
+        due("as HOME", b.steps(64), 0);
+        b.kind(0, 2, 0, 0);
+        due("as SHORE", b.steps(64), 0);
+        b.kind(0, 0, 0, 0);
+        due("as LAND", b.steps(64), 1);
+        Check.dueBoard("as LAND", b, "11", "0.");
+    }
+
+    static void promise15_anOwnCellThatIsTheLast() {
+        LandBoard b = laid(".0", "10");
+        b.want(0, 1);
+        b.want(1, 2);
+        b.kind(0, 1, 1, 1);
+        due("as HOME", b.steps(64), 0);
+        b.kind(0, 2, 1, 1);
+        due("as SHORE", b.steps(64), 0);
+        b.kind(0, 0, 0, 0);
+        due("as LAND", b.steps(64), 1);
+        Check.dueBoard("as LAND", b, ".0", "11");
     }
 
     static void promise15_aShoreWithoutSea() {
