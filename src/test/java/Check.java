@@ -53,9 +53,15 @@ final class Check {
         return board;
     }
 
+    /** A drawing that no board can be like would leave a test without what it is about, so it fails the test. */
     static void lay(LandBoard board, String... rows) {
-        board.board(rows[0].length(), rows.length);
+        if (board.board(rows[0].length(), rows.length) != rows[0].length() * rows.length) {
+            fail("a board of " + rows[0].length() + " by " + rows.length + " can't be laid");
+        }
         for (int y = 0; y < rows.length; y++) {
+            if (rows[y].length() != rows[0].length()) {
+                fail("row " + y + " is drawn in another length");
+            }
             for (int x = 0; x < rows[y].length(); x++) {
                 int land = rows[y].charAt(x) - '0';
                 if (land >= 0 && land <= 5) {

@@ -158,6 +158,11 @@ final class EdgesOfBoxesTest {
         due("three and one, the last", b.longer(4, 3, 0), 4);
     }
 
+    static void promise18_nothingChanges() {
+        Edges.stays("longer(0, 0, 0)", 9, b -> b.longer(0, 0, 0));
+        Edges.stays("longer(0, 0, 1)", 2, b -> b.longer(0, 0, 1));
+    }
+
     // ---- promise 19: box
 
     static void promise19_cutsBelowNought() {
@@ -278,6 +283,13 @@ final class EdgesOfBoxesTest {
         dueBox(laid("0....5", "......"), 0, 5, 500, 0, 500, 1000);
     }
 
+    static void promise19_nothingChanges() {
+        Edges.stays("box(0, 1, 0)", 222, b -> b.box(0, 1, 0));
+        Edges.stays("box(7, 2, 1)", 444, b -> b.box(7, 2, 1));
+        Edges.stays("box(0, 2, 2)", 333, b -> b.box(0, 2, 2));
+        Edges.stays("box(7, 2, 3)", 333, b -> b.box(7, 2, 3));
+    }
+
     // ---- promise 20: best
 
     static void promise20_noLands() {
@@ -326,19 +338,19 @@ final class EdgesOfBoxesTest {
     }
 
     static void promise20_fewerLandsThanAhead() {
-        LandBoard b = laid("0123455555");
+        LandBoard b = laid("01234", "55555");
         b.best();
         Check.lay(b, "012");
         due("three alike", b.best(), 0);
-        Check.lay(b, "0123455555");
+        Check.lay(b, "01234", "55555");
         b.box(16, 5, 0);
         Check.lay(b, "0123");
         due("four alike", b.best(), 2);
-        Check.lay(b, "0123455555");
+        Check.lay(b, "01234", "55555");
         b.longer(31, 5, 0);
         Check.lay(b, "0012");
         due("two and one and one", b.best(), 1);
-        Check.lay(b, "01233333333333");
+        Check.lay(b, "0123333", "3333333");
         b.best();
         Check.lay(b, "0122");
         due("one and one and two", b.best(), 2);
@@ -366,6 +378,23 @@ final class EdgesOfBoxesTest {
         due("keep(3)", b.keep(3), 2);
         due("moved(0, 3)", b.moved(0, 3), 0);
         due("moved(1, 2)", b.moved(1, 2), NONE);
+    }
+
+    static void promise21_allFourYearsAreApart() {
+        LandBoard b = laid("0000", "0000");
+        for (int year = 0; year < 4; year++) {
+            due("keep(" + year + ")", b.keep(year), 8);
+            b.set(year, 0, 5);
+        }
+        for (int one = 0; one < 4; one++) {
+            for (int other = 0; other < 4; other++) {
+                due("moved(" + one + ", " + other + ")", b.moved(one, other), Math.abs(one - other));
+            }
+        }
+        for (int year = 3; year >= 0; year--) {
+            due("back(" + year + ")", b.back(year), 8);
+            due("size(5) in year " + year, b.size(5), year);
+        }
     }
 
     static void promise21_allSea() {
@@ -841,6 +870,10 @@ final class EdgesOfBoxesTest {
         due("behind back", b.trace(), 12);
         b.board(1, 1);
         due("behind board", b.trace(), 12);
+    }
+
+    static void promise25_nothingChanges() {
+        Edges.stays("trace()", 12, LandBoard::trace);
     }
 
     static void promise25_theMost() {

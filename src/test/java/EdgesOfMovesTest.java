@@ -264,6 +264,12 @@ final class EdgesOfMovesTest {
         Edges.stays("may(1, 0, 0)", 1, b -> b.may(1, 0, 0));
     }
 
+    static void promise11_itMayNotAndNothingChanges() {
+        Edges.stays("may(2, 1, 0): 1 and 2 would part", 0, b -> b.may(2, 1, 0));
+        Edges.stays("may(0, 0, 1): its own cell", 0, b -> b.may(0, 0, 1));
+        Edges.stays("may(4, 0, 1): sea", 0, b -> b.may(4, 0, 1));
+    }
+
     static void promise11_toItsOwnLand() {
         Edges.stays("may(1, 0, 1)", 0, b -> b.may(1, 0, 1));
         due("the full board", Edges.full(0).may(7, 7, 0), 0);
@@ -771,6 +777,13 @@ final class EdgesOfMovesTest {
         Check.dueBoard("steps(64)", b, "000", "0..");
     }
 
+    static void promise15_aLandWithoutCellsWantsInVain() {
+        LandBoard b = twoLands(6, 6);
+        b.want(5, 64);
+        due("steps(64)", b.steps(64), 0);
+        Check.dueBoard("steps(64)", b, "000111", "000111");
+    }
+
     static void promise15_missIsNought() {
         LandBoard b = twoLands(6, 6);
         due("steps(64)", b.steps(64), 0);
@@ -1050,6 +1063,16 @@ final class EdgesOfMovesTest {
         due("about(1, 3)", b.about(1, 3), 5);
         due("moved(0, 2)", b.moved(0, 2), 1);
         due("trace()", b.trace(), 12);
+    }
+
+    static void promise16_anOwnCellGoesBackToo() {
+        LandBoard b = laid("0001", "0001");
+        b.move(2, 0, 1);
+        b.kind(1, 1, 2, 0);
+        due("may(2, 0, 0)", b.may(2, 0, 0), 0);
+        due("undo(1)", b.undo(1), 1);
+        Check.dueBoard("undo(1)", b, "0001", "0001");
+        due("about(1, 0)", b.about(1, 0), 1);
     }
 
     static void promise16_whatIsTakenBackIsNotKept() {

@@ -1,3 +1,5 @@
+import java.util.function.ToLongFunction;
+
 /** Promises 1 to 9: each edge that the document names, and each refused call, a test of its own. */
 final class EdgesOfTheBoardTest {
     private static final int BAD = Edges.BAD, STATE = Edges.STATE, SEA = Edges.SEA, NONE = Edges.NONE;
@@ -96,6 +98,56 @@ final class EdgesOfTheBoardTest {
         Check.due("the other", Edges.seen(other), before);
         due("the other's back(1)", other.back(1), STATE);
         due("the other's trace()", other.trace(), 0);
+    }
+
+    /** An object behind 511 calls: its board is as laid, 498 moves are done, the year 2 is kept. */
+    private static LandBoard late() {
+        LandBoard b = Check.laid("0001", "0001");
+        b.kind(0, 1, 0, 0);
+        b.want(0, 3);
+        b.want(1, 5);
+        b.keep(2);
+        for (int calls = 13; calls < 511; calls++) {
+            b.move(2, 0, calls % 2);
+        }
+        return b;
+    }
+
+    private static void dueLate(String call, long due, ToLongFunction<LandBoard> asked) {
+        due("behind 511 calls " + call, asked.applyAsLong(late()), due);
+    }
+
+    static void promise1_theLastOf512CallsToTheBoard() {
+        dueLate("board(8, 8)", 64, b -> b.board(8, 8));
+        dueLate("set(3, 1, 5)", 1, b -> b.set(3, 1, 5));
+        dueLate("at(2, 0)", 0, b -> b.at(2, 0));
+        dueLate("size(0)", 6, b -> b.size(0));
+        dueLate("whole(0)", 1, b -> b.whole(0));
+        dueLate("touch(0, 1)", 1, b -> b.touch(0, 1));
+        dueLate("kind(1, 2, 3, 0)", 1, b -> b.kind(1, 2, 3, 0));
+        dueLate("about(0, 3)", 3, b -> b.about(0, 3));
+    }
+
+    static void promise1_theLastOf512CallsToMoves() {
+        dueLate("leaves(0, 0)", 0, b -> b.leaves(0, 0));
+        dueLate("may(2, 0, 1)", 1, b -> b.may(2, 0, 1));
+        dueLate("move(2, 0, 1)", 0, b -> b.move(2, 0, 1));
+        dueLate("want(1, 9)", 5, b -> b.want(1, 9));
+        dueLate("miss()", 6, LandBoard::miss);
+        dueLate("steps(64)", 3, b -> b.steps(64));
+        dueLate("undo(100)", 100, b -> b.undo(100));
+        dueLate("label(1, 0)", 3, b -> b.label(1, 0));
+    }
+
+    static void promise1_theLastOf512CallsToBoxesAndYears() {
+        dueLate("longer(1, 0, 0)", 4, b -> b.longer(1, 0, 0));
+        dueLate("box(0, 1, 0)", 750, b -> b.box(0, 1, 0));
+        dueLate("best()", 0, LandBoard::best);
+        dueLate("keep(0)", 8, b -> b.keep(0));
+        dueLate("back(2)", 8, b -> b.back(2));
+        dueLate("moved(2, 2)", 0, b -> b.moved(2, 2));
+        dueLate("count(4)", 498, b -> b.count(4));
+        dueLate("trace()", 0, LandBoard::trace);
     }
 
     // ---- promise 2: board
@@ -430,6 +482,11 @@ final class EdgesOfTheBoardTest {
         due("at(1, 1)", b.at(1, 1), 5);
     }
 
+    static void promise4_nothingChanges() {
+        Edges.stays("at(3, 1)", 1, b -> b.at(3, 1));
+        Edges.stays("at(4, 0)", SEA, b -> b.at(4, 0));
+    }
+
     // ---- promise 5: size
 
     static void promise5_landTooSmall() {
@@ -462,6 +519,11 @@ final class EdgesOfTheBoardTest {
 
     static void promise5_piecesApart() {
         due("size(0)", Check.laid("0.0", "...", "0.0").size(0), 4);
+    }
+
+    static void promise5_nothingChanges() {
+        Edges.stays("size(2)", 6, b -> b.size(2));
+        Edges.stays("size(5)", 0, b -> b.size(5));
     }
 
     // ---- promise 6: whole
@@ -526,6 +588,11 @@ final class EdgesOfTheBoardTest {
     static void promise6_aRing() {
         due("whole(0)", Check.laid("000", "010", "000").whole(0), 1);
         due("whole(1)", Check.laid("000", "010", "000").whole(1), 1);
+    }
+
+    static void promise6_nothingChanges() {
+        Edges.stays("whole(2)", 1, b -> b.whole(2));
+        Edges.stays("whole(4)", 0, b -> b.whole(4));
     }
 
     // ---- promise 7: touch
@@ -668,6 +735,13 @@ final class EdgesOfTheBoardTest {
 
     static void promise7_aLakeAtACornerDoesNotTouch() {
         due("touch(1, SEA)", Check.laid("00000", "0.000", "00100", "000.0", "00000").touch(1, SEA), 0);
+    }
+
+    static void promise7_nothingChanges() {
+        Edges.stays("touch(0, 1)", 1, b -> b.touch(0, 1));
+        Edges.stays("touch(0, 3)", 0, b -> b.touch(0, 3));
+        Edges.stays("touch(sea, 3)", 1, b -> b.touch(SEA, 3));
+        Edges.stays("touch(4, sea)", 0, b -> b.touch(4, SEA));
     }
 
     // ---- promise 8: kind
@@ -877,6 +951,14 @@ final class EdgesOfTheBoardTest {
         due("about(5, 1)", b.about(5, 1), NONE);
         due("about(5, 2)", b.about(5, 2), NONE);
         due("about(5, 3)", b.about(5, 3), 0);
+    }
+
+    static void promise9_nothingChanges() {
+        Edges.stays("about(0, 0)", 1, b -> b.about(0, 0));
+        Edges.stays("about(2, 1)", 2, b -> b.about(2, 1));
+        Edges.stays("about(2, 2)", 3, b -> b.about(2, 2));
+        Edges.stays("about(4, 1)", NONE, b -> b.about(4, 1));
+        Edges.stays("about(5, 3)", 64, b -> b.about(5, 3));
     }
 
     static void promise9_noOwnCellBehindANewBoard() {

@@ -6,7 +6,9 @@ import java.lang.reflect.Modifier;
 import java.nio.charset.StandardCharsets;
 import java.nio.file.Files;
 import java.nio.file.Path;
+import java.util.Map;
 import java.util.Set;
+import java.util.TreeMap;
 import java.util.TreeSet;
 import java.util.regex.Matcher;
 import java.util.regex.Pattern;
@@ -133,15 +135,40 @@ final class LanguageTest {
     /** A method begins with a line that ends with ") {" and is not a statement, and ends where its indent comes back. */
     private static void methods(String code) {
         String[] lines = code.split("\n");
+        Map<String, String> bodies = new TreeMap<>();
         for (int k = 0; k < lines.length; k++) {
             if (lines[k].matches("( {4}| {8})(public|private|static|final|int|long|boolean|void|[A-Z]\\w*) .*\\) \\{")) {
                 String end = lines[k].replaceAll("\\S.*", "") + "}";
+                StringBuilder body = new StringBuilder();
                 int last = k;
                 while (last < lines.length && !lines[last].equals(end)) {
+                    body.append(last == k ? "" : lines[last] + "\n");
                     last++;
                 }
                 rule("rule 11: some sixty lines " + lines[k].trim(), last - k <= 60);
+                bodies.merge(lines[k].replaceAll("\\(.*", "").replaceAll(".* ", ""), body.toString(), String::concat);
             }
         }
+        calls(bodies);
+    }
+
+    private static void calls(Map<String, String> bodies) {
+        rule("rule 8: methods are found", bodies.size() > FACE.size());
+        for (String name : bodies.keySet()) {
+            int deep = deep(name, bodies, 0);
+            rule("rules 8, 11: no recursion, calls at most eight deep, " + name + " is " + deep, deep <= 8);
+        }
+    }
+
+    /** How many calls stand open at once when a method is called; a method that comes back to itself has no end. */
+    private static int deep(String name, Map<String, String> bodies, int open) {
+        int deepest = 0;
+        Matcher called = Pattern.compile("\\b(\\w+)\\(").matcher(bodies.get(name));
+        while (open < 20 && called.find()) {
+            if (bodies.containsKey(called.group(1))) {
+                deepest = Math.max(deepest, deep(called.group(1), bodies, open + 1));
+            }
+        }
+        return deepest + 1;
     }
 }
